@@ -61,6 +61,29 @@ public final class AheadTest {
         x.go(40);
         y.go(40);
         CHECKS.due("no number was drawn", Checks.soul(x, 0, 3), Checks.soul(y, 0, 3));
+        // Each call goes as it goes, whatever the one ahead of it tried.
+        x = Checks.told("soul a 0 0 0;soul b 0 0 0;bus k 2 20 1 9;lets a b;lets b a;seats 0;rain 60;law soak 2;");
+        x.go(1);
+        int wet = Checks.soul(x, 0, 3);
+        CHECKS.due("wet as it goes behind go", x.ahead(5, 3, 0), wet + 10);
+        x.chance(4, 9, 0, 1);
+        CHECKS.due("wet as it goes behind chance", x.ahead(5, 3, 0), wet + 10);
+        for (int what : new int[] {1, 3, 4, 5}) {
+            x.tried(what, 0, 30);
+            CHECKS.due("gone as it goes behind tried " + what, x.ahead(60, 0, 0), 0);
+            CHECKS.due("trips behind tried " + what, x.trips(0), 0);
+            x.tried(what, 0, 30);
+            CHECKS.due("match behind tried " + what, x.match(0), -2);
+        }
+        x.give(0, 50);
+        x.give(1, 50);
+        x.off(1);
+        x.everies(0);
+        CHECKS.due("the bus's own every", x.goes(0), 2);
+        x = Checks.told("soul a 3 0 9;bus k 2 20 1 9;");
+        x.see(1, 0, false);
+        x.everies(0);
+        CHECKS.due("the bus's own every", x.goes(0), 23);
     }
 
     private static void next() {

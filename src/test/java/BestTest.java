@@ -158,6 +158,12 @@ public final class BestTest {
         restsAre("cut", "soul a 0 1 0;soul b 0 0 0;", 1, 10);
         // a holds anyway; b has 1 against 2 - 1.
         restsAre("as much is no more", "soul a 0 1 9;soul b 0 1 2;", 10, 11);
+        // Both yield only where nobody has anything.
+        restsAre("both yield", "soul a 0 0 0;soul b 0 0 0;soul c 0 9 9;", 0, 1, 10, 11);
+        restsAre("a has coins", "soul a 0 0 1;soul b 0 0 0;", 10, 11);
+        restsAre("b has coins", "soul a 0 0 0;soul b 0 0 1;", 1, 11);
+        restsAre("b holds anyway", "soul a 0 1 2;soul b 0 1 9;", 1, 11);
+        restsAre("one yields to another", "soul a 0 2 0;soul b 0 99 99;", 1, 10);
         HeavenStop x = Checks.told("soul a 0 5 3;soul b 0 9 2;soul c 0 3 50;");
         CHECKS.due("c holds", x.rest(2, 0, 0), 10);
         CHECKS.due("other way round", x.rest(0, 2, 0), 1);

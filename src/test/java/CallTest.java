@@ -112,6 +112,7 @@ public final class CallTest {
         }
         CHECKS.due("none", x.undo(), -1);
         CHECKS.due("the first five stay", Checks.soul(x, 0, 2), 8);
+        oldestIsForgotten();
         x.give(0, 1);
         x.go(0);
         x.go(-1);
@@ -126,6 +127,27 @@ public final class CallTest {
         CHECKS.due("99", Checks.soul(x, 0, 2), 99);
         CHECKS.due("undone", x.undo(), 0);
         CHECKS.due("9", Checks.soul(x, 0, 2), 9);
+    }
+
+    private static void oldestIsForgotten() {
+        HeavenStop x = Checks.told(FOUR);
+        x.go(1);
+        x.give(0, 1);
+        for (int i = 0; i < 9; i++) {
+            x.move(1, i % 2 == 0 ? 0 : 1);
+            x.give(2, 1);
+        }
+        x.off(0);
+        x.give(1, 1);
+        // 21 of them: the first one is forgotten.
+        CHECKS.due("20", x.count(13), 20);
+        for (int i = 19; i >= 0; i--) {
+            CHECKS.due("undo", x.undo(), i);
+        }
+        CHECKS.row("a b c", Checks.queue(x), 0, 1, 2);
+        CHECKS.due("a keeps the first one", Checks.soul(x, 0, 2), 4);
+        CHECKS.due("b", Checks.soul(x, 1, 2), 4);
+        CHECKS.due("c", Checks.soul(x, 2, 2), 5);
     }
 
     private static void images() {
@@ -162,6 +184,26 @@ public final class CallTest {
         Checks.tell(x, "soul a 0 0 0;");
         CHECKS.due("a text takes it", x.back(), -1);
         imageKeepsNumbers();
+        imageKeepsTheGone();
+    }
+
+    private static void imageKeepsTheGone() {
+        HeavenStop x = Checks.told("soul a 0 0 0;soul b 0 0 0;soul c 0 0 0;soul d 0 0 0;bus k 9 9 1 0;bus l 2 2 2 0;");
+        x.go(3);
+        x.keep();
+        CHECKS.due("a went with b", Checks.soul(x, 0, 7), 3);
+        CHECKS.due("bus l", Checks.soul(x, 0, 6), 1);
+        x.give(2, 7);
+        x.give(2, 8);
+        CHECKS.due("back", x.back(), 3);
+        CHECKS.due("nothing to undo", x.undo(), -1);
+        CHECKS.due("coins", Checks.soul(x, 2, 2), 0);
+        x.go(9);
+        CHECKS.due("c went with d", Checks.soul(x, 2, 7), 12);
+        x.back();
+        CHECKS.due("c is here again", Checks.soul(x, 2, 7), 0);
+        CHECKS.due("a went with b still", Checks.soul(x, 0, 7), 3);
+        CHECKS.due("passed", Checks.soul(x, 2, 5), 1);
     }
 
     private static void imageKeepsNumbers() {

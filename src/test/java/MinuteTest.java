@@ -100,6 +100,18 @@ public final class MinuteTest {
         x = Checks.told("soul a 0 1 5;soul b 0 0 5;bus k 1 1 1 0;law turn 9998+kind;");
         x.go(2);
         CHECKS.row("9999 is not cut", Checks.queue(x), 0);
+        x = Checks.told("soul a 0 2 5;soul b 0 1 5;bus k 1 1 1 0;law turn 9998+kind;");
+        x.go(2);
+        CHECKS.row("10000 is cut", Checks.queue(x), 1);
+        x = Checks.told("soul a 0 1 5;soul b 0 2 5;bus k 1 1 1 0;law turn 0-9998-kind;");
+        x.go(2);
+        CHECKS.row("-10000 is cut", Checks.queue(x), 1);
+        x = Checks.told("soul a 0 0 5;soul b 0 1 5;bus k 1 1 1 0;law turn 0-9998-kind;");
+        x.go(2);
+        CHECKS.row("-9999 is not cut", Checks.queue(x), 0);
+        x = Checks.told("soul a 0 0 5;soul b 0 9 5;bus k 1 1 1 0;law turn 9/kind;");
+        x.go(2);
+        CHECKS.row("an error is less than 1", Checks.queue(x), 1);
         // With an ERROR 0: of kind 0.
         x = Checks.told("soul a 0 1 5;soul b 0 0 5;bus k 1 1 1 0;law turn 5/kind;");
         x.go(2);

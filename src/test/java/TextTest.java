@@ -9,6 +9,7 @@ public final class TextTest {
         newObject();
         feeding();
         reading();
+        readingOften();
         lexing();
         faults();
         tooMany();
@@ -73,6 +74,47 @@ public final class TextTest {
         CHECKS.due("told anew: no law", x.law(2, 0, 0), Long.MIN_VALUE);
         CHECKS.due("told anew: coins", Checks.soul(x, 1, 2), 3);
 
+    }
+
+    /** What one text told must not be seen in the next but one, nor what a faulty one told. */
+    private static void readingOften() {
+        String full = "soul a 0 1 2;soul b 0 5 6;soul c 0 5 6;bus k 0 1 1 0;lets a b;lets b c;lets a c;seats 0;rain 100;"
+            + "seed 9;law may 1 and(2<3);law turn 2;law soak 3;";
+        HeavenStop x = Checks.told(full);
+        for (int i = 0; i < 3; i++) {
+            x.go(2);
+            x.see(1, 0, true);
+            x.known(1);
+            CHECKS.due("faulty", Checks.tell(x, full + "law may ((1<2)<(3+"), -1);
+            CHECKS.due("full", Checks.tell(x, full), 13);
+            x.go(3);
+            CHECKS.due("passed", x.count(10) > 0, true);
+            CHECKS.due("faulty", Checks.tell(x, "law may ((1<2"), -1);
+            CHECKS.due("two", Checks.tell(x, "soul d 0 7 8;soul e 0 0 0;"), 2);
+            int[] counts = {2, 0, 2, 0, 0, 0, 0, 0, 0, 0, 0, 0, 0, 0};
+            for (int j = 0; j < counts.length; j++) {
+                CHECKS.due("two: count " + j, x.count(j), counts[j]);
+            }
+            CHECKS.due("no lets", x.lets(0), 0);
+            CHECKS.due("no rain", x.dry(1, 1), 1);
+            CHECKS.due("not passed", Checks.soul(x, 0, 5), 0);
+            CHECKS.due("no law", x.law(2, 0, 0), Long.MIN_VALUE);
+            x.go(5);
+            CHECKS.due("both wait", x.count(5), 2);
+            CHECKS.due("faulty", Checks.tell(x, "law may ("), -1);
+            CHECKS.due("one comparison", Checks.tell(x, "law may 1<2;"), 1);
+        }
+        // Eight of each at once, time and again: no limit is used up by a text ahead.
+        StringBuilder eight = new StringBuilder();
+        for (int i = 0; i < 8; i++) {
+            eight.append("soul ").append((char) ('a' + i)).append(" 0 0 1;");
+        }
+        for (int i = 0; i < 8; i++) {
+            eight.append("lets ").append((char) ('a' + i)).append(' ').append((char) ('a' + (i + 3) % 8)).append(';');
+        }
+        for (int i = 0; i < 4; i++) {
+            CHECKS.due("eight", Checks.tell(x, eight.toString()), 16);
+        }
     }
 
     private static void fault(String text, int fault, int place) {
@@ -150,7 +192,9 @@ public final class TextTest {
         fault("seed 99999999999999999999999;", 2, 5);
         fault("seats 4294967296;", 2, 6);
         fault("soul a 100 100 100;", 2, 7);
+        fault("soul a 0 100 0;", 2, 9);
         fault("soul a 0 0 100;", 2, 11);
+        fault("bus b 100 1 1 0;", 2, 6);
         fault("bus b 0 0 1 0;", 2, 8);
         fault("bus b 0 31 1 0;", 2, 8);
         fault("bus b 0 1 0 0;", 2, 10);
@@ -212,6 +256,7 @@ public final class TextTest {
         fine("law may((((((((1))))))));", 1);
         fine("law may (1)+((2))*(((3)));", 1);
         fine("law may not not not 1;", 1);
+        fine("law may 1+(not 2)*(not not 3);", 1);
         fine("law may not(1<2)and not 2 or not 3=4;", 1);
         fine("law may (1<2)<(2<3);", 1);
         fine("law may 9999;", 1);
