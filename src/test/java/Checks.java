@@ -1,5 +1,6 @@
 import java.nio.charset.StandardCharsets;
 import java.util.NoSuchElementException;
+import java.util.function.IntToLongFunction;
 
 /** What the tests share: telling a text, saying what is due, and ending with the right code. */
 final class Checks {
@@ -8,12 +9,28 @@ final class Checks {
 
     private int wrong = 0;
     private int made = 0;
+    private String sentence = "";
+
+    /** The sentence of the document that the answers from here on are about. */
+    void says(String words) {
+        sentence = "[" + words + "] ";
+    }
 
     void due(String what, long got, long want) {
         made++;
         if (got != want) {
             wrong++;
-            System.out.println(what + " answered " + got + ", due is " + want);
+            System.out.println(sentence + what + " answered " + got + ", due is " + want);
+        }
+    }
+
+    /** What lies just and far beyond least .. most is refused with an answer; what lies on it isn't. */
+    void range(String what, int least, int most, long refused, IntToLongFunction call) {
+        for (int i : new int[] {Integer.MIN_VALUE, least - 1, most + 1, Integer.MAX_VALUE}) {
+            due(what + " " + i, call.applyAsLong(i), refused);
+        }
+        for (int i : new int[] {least, most}) {
+            due(what + " " + i + " is refused", call.applyAsLong(i) == refused, false);
         }
     }
 
