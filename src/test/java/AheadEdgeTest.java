@@ -504,8 +504,22 @@ public final class AheadEdgeTest {
         matchIs("off", x, 1, -2, -2, -2, 8);
         x.go(3);
         matchIs("d is there", x, 3, -2, -2, -2, 99);
-        x.tried(3, 0, 0);
-        matchIs("behind all may", x, 3, -2, -2, -2, 99);
+        x.off(3);
+        x.give(1, 1);
+        matchIs("d is off", x, 1, -2, -2, -2, 8);
+        for (int what : new int[] {3, 5}) {
+            x.off(1);
+            x.off(2);
+            x.tried(what, 0, 9);
+            CHECKS.due("nobody waits behind tried " + what, x.match(4), 0);
+            x.undo();
+            x.undo();
+            x.ahead(9, 0, 0);
+            CHECKS.due("b waits behind ahead", x.match(0), 1);
+        }
+        x.undo();
+        x.undo();
+        matchIs("undone", x, 3, -2, -2, -2, 99);
         x.go(6);
         CHECKS.due("b is gone with k", Checks.soul(x, 1, 0), 2);
         matchIs("b is gone", x, 3, -2, -2, -2, 99);

@@ -21,6 +21,7 @@ public final class CallEdgeTest {
         countEach();
         countEight();
         countNone();
+        manyCalls();
         CHECKS.end("CallEdgeTest");
     }
 
@@ -397,5 +398,29 @@ public final class CallEdgeTest {
         CHECKS.range("new", 0, 13, -1, x::count);
         HeavenStop y = Checks.told(EIGHT);
         CHECKS.range("told", 0, 13, -1, y::count);
+    }
+
+    private static void manyCalls() {
+        CHECKS.says("An object is used for at most 512 calls after it has been made");
+        HeavenStop x = Checks.told(EIGHT + "bus k 1 3 1 0;rain 50;seats 0;");
+        // Seven feeds, a text and a minute are nine; each round has twenty-five.
+        x.go(1);
+        int goes = x.goes(7);
+        int everies = x.everies(0);
+        int best = x.order(4);
+        for (int round = 0; round < 20; round++) {
+            x.give(7, 1);
+            x.move(7, 0);
+            CHECKS.due("the same everies", x.everies(0), everies);
+            for (int i = 0; i < 10; i++) {
+                x.coins(7);
+                x.order(i % 5);
+            }
+            x.undo();
+            x.undo();
+        }
+        CHECKS.due("the last calls: goes", x.goes(7), goes);
+        CHECKS.due("the last calls: order", x.order(4), best);
+        CHECKS.due("the last calls: coins", Checks.soul(x, 7, 2), 0);
     }
 }

@@ -66,6 +66,10 @@ public final class FaceTest {
     private static void inside() {
         Class<?>[] classes = HeavenStop.class.getDeclaredClasses();
         CHECKS.due("at most twelve classes", classes.length + 1 <= 12, true);
+        Set<String> names = new TreeSet<>();
+        for (String method : METHODS.split(" ")) {
+            names.add(method.substring(0, method.indexOf('(')));
+        }
         for (Class<?> one : classes) {
             CHECKS.due(one + " is static", Modifier.isStatic(one.getModifiers()), true);
             long fields = Arrays.stream(one.getDeclaredFields())
@@ -73,6 +77,8 @@ public final class FaceTest {
             CHECKS.due(one + " has at most twenty fields", fields <= 20, true);
             for (Method method : one.getDeclaredMethods()) {
                 CHECKS.due(method + " takes at most seven", method.getParameterCount() <= 7, true);
+                boolean isHidden = Modifier.isPrivate(method.getModifiers());
+                CHECKS.due(method + " bears a public name", isHidden && names.contains(method.getName()), false);
             }
         }
     }

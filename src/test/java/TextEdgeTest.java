@@ -15,6 +15,7 @@ public final class TextEdgeTest {
         textEmptiesTheTape();
         textBeginsAnew();
         textLines();
+        textsAheadLeaveNothing();
         textFaultAllStays();
         textNotSoMany();
         faultOfTheLatest();
@@ -27,6 +28,8 @@ public final class TextEdgeTest {
         blanks();
         oneComparison();
         notOnlyAheadOfB();
+        lawsOneBehindAnother();
+        faultyLawsLeaveNothing();
         signsOfTwo();
         numbersOfE();
         souls();
@@ -260,6 +263,41 @@ public final class TextEdgeTest {
             + "seats 1;rain 2;seed 3;law may 1;law turn 2;law soak 3;", 26);
         CHECKS.due("souls", x.count(0), 8);
         CHECKS.due("buses", x.count(1), 4);
+    }
+
+    private static void textsAheadLeaveNothing() {
+        CHECKS.says("3: The TAPE's first n bytes are the TEXT: nothing of a text ahead, faulty or not");
+        String full = souls(8).replace("0 0 0", "0 9 9") + buses(4) + ring(8) + "seats 7;rain 30;seed 5;"
+            + "law may wet<9;law turn kind;law soak 9;";
+        String few = "soul q 0 0 0;bus q 9 1 1 0;";
+        HeavenStop x = new HeavenStop();
+        for (int i = 0; i < 4; i++) {
+            // Two ahead of it, so that whatever is used again was told in full.
+            CHECKS.due("full", Checks.tell(x, full), 26);
+            CHECKS.due("full again", Checks.tell(x, i % 2 == 0 ? full : full + "?"), i % 2 == 0 ? 26 : -1);
+            CHECKS.due("few", Checks.tell(x, few), 2);
+            int[] counts = {1, 1, 2, 0, 0, 0, 0, 0, 0, 0, 0, 0, 0, 0};
+            for (int what = 0; what < counts.length; what++) {
+                CHECKS.due("count " + what, x.count(what), counts[what]);
+            }
+            CHECKS.due("no rain", x.dry(1, 0), 1);
+            CHECKS.due("no lets", x.lets(0), 0);
+            CHECKS.due("no soul a", x.named(0, 1 << 25), -1);
+            CHECKS.due("no soul h", x.named(0, 8 << 25), -1);
+            CHECKS.due("no bus a", x.named(1, 1 << 25), -1);
+            for (int law = 0; law < 3; law++) {
+                CHECKS.due("no law " + law, x.law(law, 0, 0), Long.MIN_VALUE);
+            }
+            CHECKS.due("no coins", Checks.soul(x, 0, 2), 0);
+            // Seed 0: it rains in the first minute by 1 of a hundred.
+            Checks.tell(x, full);
+            Checks.tell(x, full + "?");
+            Checks.tell(x, "soul a 0 0 0;seats 0;rain 1;");
+            x.go(1);
+            CHECKS.due("seed 0", Checks.soul(x, 0, 3), 1);
+            // What may be told once, or eight times, may be told as often again.
+            CHECKS.due("full", Checks.tell(x, full), 26);
+        }
     }
 
     private static void textFaultAllStays() {
@@ -498,6 +536,68 @@ public final class TextEdgeTest {
         fault("law may not and 1;", 1, 12);
         fault("law may 1 not;", 1, 10);
         fault("law may (1)not 1;", 1, 11);
+    }
+
+    private static void lawIs(String e, long want) {
+        CHECKS.due(e, Checks.told("soul a 0 0 0;law soak " + e + ";").law(2, 0, 0), want);
+    }
+
+    private static void lawsOneBehindAnother() {
+        CHECKS.says("law RULE E: each begins anew");
+        // A comparison, a not, an and in each of three: none of them is another one's.
+        for (String e : new String[] {"1<2", "not 0", "1 and 1", "(1<2)", "1<2 and 1<2", "not 1>2", "0 or 1=1"}) {
+            HeavenStop x = fine("soul a 0 0 0;bus k 0 1 1 0;law soak " + e + ";law may " + e + ";law turn " + e + ";", 5);
+            for (int law = 0; law < 3; law++) {
+                CHECKS.due(e + ": law " + law, x.law(law, 0, 0), 1);
+            }
+        }
+        // In whatever row they come, each is its own.
+        String[] rows = {"may turn soak", "may soak turn", "turn may soak", "turn soak may", "soak may turn", "soak turn may"};
+        for (String row : rows) {
+            String text = "soul a 0 0 0;bus k 0 1 1 0;";
+            for (String rule : row.split(" ")) {
+                text += "law " + rule + " " + (rule.equals("may") ? "10+1" : rule.equals("turn") ? "20*2" : "5") + ";";
+            }
+            HeavenStop x = fine(text, 5);
+            CHECKS.due(row + ": may", x.law(0, 0, 0), 11);
+            CHECKS.due(row + ": turn", x.law(1, 0, 0), 40);
+            CHECKS.due(row + ": soak", x.law(2, 0, 0), 5);
+        }
+        // not is of the whole comparison, and of nothing behind it.
+        lawIs("not 1=2", 1);
+        lawIs("(not 1)=2", 0);
+        lawIs("not 0 and 0", 0);
+        lawIs("not 1 or 1", 1);
+        lawIs("not 2>1", 0);
+        lawIs("not 1+1", 0);
+        lawIs("1 and not 0=1 or 0", 1);
+        fault("law may abc;", 1, 8);
+        fault("law may 1+abc;", 1, 10);
+    }
+
+    private static void faultyLawsLeaveNothing() {
+        CHECKS.says("law RULE E: nothing of a faulty one is in the next one");
+        String[] faulty = {"1+", "1+2*", "not", "not not 1 and", "1 or", "(", "((((((((", "1<", "1<2<", "(1<2<", "1+(", "(1+",
+            "1<(2<", "(((1<2)<3)<4<", "1 2", "1 and not", "10000"};
+        for (String one : faulty) {
+            HeavenStop x = new HeavenStop();
+            // More often than there are open signs that could be left.
+            for (int i = 0; i < 80; i++) {
+                CHECKS.due(one, Checks.tell(x, "law may " + one), -1);
+            }
+            CHECKS.due("behind " + one, Checks.tell(x, "soul a 0 0 0;law soak 5;"), 2);
+            CHECKS.due("5 behind " + one, x.law(2, 0, 0), 5);
+            CHECKS.due("a knot behind " + one, x.count(3), 1);
+            Checks.tell(x, "law may " + one);
+            CHECKS.due("behind " + one, Checks.tell(x, "soul a 0 0 0;law soak not 1<2 or 3<4;"), 2);
+            CHECKS.due("1 behind " + one, x.law(2, 0, 0), 1);
+            Checks.tell(x, "law may " + one);
+            CHECKS.due("behind " + one, Checks.tell(x, "law soak 1);"), -1);
+            CHECKS.due("no '(' is open behind " + one, x.fault(1), 10);
+            Checks.tell(x, "law may " + one);
+            CHECKS.due("behind " + one, Checks.tell(x, "soul a 0 0 0;law soak ((((((((7))))))));"), 2);
+            CHECKS.due("7 behind " + one, x.law(2, 0, 0), 7);
+        }
     }
 
     private static void signsOfTwo() {
